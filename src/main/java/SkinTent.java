@@ -558,7 +558,7 @@ public final class SkinTent {
             passBlanks();
             int first = at;
             int value = 0;
-            while (isFigureAt(at)) {
+            while (at < many && isFigureAt(at)) {
                 if (at - first < MOST_FIGURES) {
                     value = value * 10 + byteAt(at) - '0';
                 }
@@ -696,8 +696,11 @@ public final class SkinTent {
 
     /** THE TENT as a text tells it. */
     private static final class Tent {
-        private static final int VALUES = 9, CLAUSES = 8;
-        private static final int CLOTH = 0, DOOR = 1, MIX = 2, SKIN = 3, HOLE = 4, HEAT = 5, SMOKE = 6, LIMIT = 7, ROPE = 8;
+        // The values by the numbers that told() has for them.
+        private static final int CLOTH = 0, DOOR = 1, MIX = 2, SKIN = 3, HOLE = 4;
+        private static final int HEAT = 5, SMOKE = 6, LIMIT = 7, ROPE = 8, VALUES = 9;
+        // Clauses that stand once, then those that may stand often.
+        private static final int CLAUSES = 8, POLE = 8, PEG = 9, WORDS = 10;
         private static final int[] UNTOLD = {2, 20, 40, 30, 10, 300, 60, 150, 0};
         private static final int[] LEAST = {0, 0, 0, 0, 0, 1, 0, 0, 0};
         private static final int[] MOST = {5, 100, 200, 200, 99, 999, 999, 999, 999};
@@ -733,26 +736,22 @@ public final class SkinTent {
 
         private void readClause(Text text) {
             int first = text.at;
-            if (text.takes("pole")) {
+            int word = takeWord(text);
+            if (word == NONE) {
+                text.blame(1, first);
+            } else if (word == POLE) {
                 poles.read(text, first);
-            } else if (text.takes("peg")) {
+            } else if (word == PEG) {
                 pegs.read(text, first);
+            } else if (isTold[word]) {
+                text.blame(3, first);
             } else {
-                readValues(text, first);
+                isTold[word] = true;
+                readValues(text, word);
             }
         }
 
-        private void readValues(Text text, int first) {
-            int clause = takeWord(text);
-            if (clause == NONE) {
-                text.blame(1, first);
-                return;
-            }
-            if (isTold[clause]) {
-                text.blame(3, first);
-                return;
-            }
-            isTold[clause] = true;
+        private void readValues(Text text, int clause) {
             for (int i = FIRST_VALUE[clause]; i < FIRST_VALUE[clause + 1]; i++) {
                 values[i] = text.number(LEAST[i], MOST[i]);
             }
@@ -760,7 +759,7 @@ public final class SkinTent {
         }
 
         private static int takeWord(Text text) {
-            for (int i = 0; i < CLAUSES; i++) {
+            for (int i = 0; i < WORDS; i++) {
                 if (text.takes(wordOf(i))) {
                     return i;
                 }
@@ -777,7 +776,9 @@ public final class SkinTent {
                 case 4: return "hole";
                 case 5: return "wood";
                 case 6: return "limit";
-                default: return "rope";
+                case 7: return "rope";
+                case POLE: return "pole";
+                default: return "peg";
             }
         }
 
@@ -1243,7 +1244,7 @@ public final class SkinTent {
                 work += minutes[i] * hands[i];
             }
             fewest = oneByOne;
-            putUp(0, 0, 0, 0, 0, work);
+            putUp(this, 0, 0, 0, 0, 0, work);
             return fewest;
         }
 
@@ -1252,27 +1253,29 @@ public final class SkinTent {
          * from later on; so much work is left. The next ACT begins as soon as it can. Told by their beginnings, the
          * ACTS of some best row come so: what would begin ahead of the latest one is left out.
          */
-        private void putUp(int depth, int begun, int sooner, int later, int latest, int work) {
-            if (depth >= many) {
-                fewest = Math.min(fewest, later);
+        private static void putUp(Acts acts, int depth, int begun, int sooner, int later, int latest, int work) {
+            if (depth >= acts.many) {
+                acts.fewest = Math.min(acts.fewest, later);
                 return;
             }
             // Both women together do what is left, at best without a rest.
-            if (later >= fewest || (sooner + later + work + 1) / 2 >= fewest) {
+            if (later >= acts.fewest || (sooner + later + work + 1) / 2 >= acts.fewest) {
                 return;
             }
-            for (int i = 0; i < many; i++) {
-                if ((begun >> i & 1) != 0 || (after[i] & ~begun) != 0) {
+            for (int i = 0; i < acts.many; i++) {
+                if ((begun >> i & 1) != 0 || (acts.after[i] & ~begun) != 0) {
                     continue;
                 }
-                int begins = Math.max(readyAt(i), hands[i] == 1 ? sooner : later);
+                boolean takesOne = acts.hands[i] == 1;
+                int begins = Math.max(acts.readyAt(i), takesOne ? sooner : later);
                 if (begins < latest) {
                     continue;
                 }
-                ends[i] = begins + minutes[i];
-                int other = hands[i] == 1 ? later : ends[i];
-                int rest = work - minutes[i] * hands[i];
-                putUp(depth + 1, begun | 1 << i, Math.min(ends[i], other), Math.max(ends[i], other), begins, rest);
+                int end = begins + acts.minutes[i];
+                int other = takesOne ? later : end;
+                int rest = work - acts.minutes[i] * acts.hands[i];
+                acts.ends[i] = end;
+                putUp(acts, depth + 1, begun | 1 << i, Math.min(end, other), Math.max(end, other), begins, rest);
             }
         }
 
