@@ -963,11 +963,13 @@ public final class SkinTent {
 
     /** Who LOOKS, how often, and what one does then. */
     private static final class Rule {
+        // Far above what WARMTH can come to.
+        private static final long NEVER = 1L << 60;
         private int every = 1;
-        // Untold, these never come about: LOW is never below 0, WARMTH neither, nor above the greatest number.
+        // Untold, these never come about: LOW is never below 0, WARMTH neither.
         private int smokeBelow = 0;
         private int coldBelow = 0;
-        private long warmAbove = Long.MAX_VALUE;
+        private long warmAbove = NEVER;
         private int more = 0;
         private int less = 0;
 
@@ -982,7 +984,7 @@ public final class SkinTent {
             coldBelow = cold ? text.number(0, 999) : 0;
             more = cold ? text.number(1, MOST_FIRE) : 0;
             boolean warm = text.takes("warm");
-            warmAbove = warm ? text.number(0, 999) : Long.MAX_VALUE;
+            warmAbove = warm ? text.number(0, 999) : NEVER;
             less = warm ? text.number(1, MOST_FIRE) : 0;
             if (text.goesOn()) {
                 text.blame(1, text.at);
@@ -1292,7 +1294,7 @@ public final class SkinTent {
 
     /** THE TRIPOD, its FORKS, THE ORDER of all other POLES. */
     private static final class Bundle {
-        private static final int MOST = 8, LEGS = 3, SETS = 1 << MOST;
+        private static final int MOST = 8, LEGS = 3, SETS = 1 << MOST, TOO_MUCH = 1000000;
         private final int[] legs = new int[LEGS];
         private final int[] begins = new int[LEGS];
         private boolean stands = false;
@@ -1362,7 +1364,7 @@ public final class SkinTent {
             int all = (1 << others) - 1;
             toCome[all] = 0;
             for (int in = all - 1; in >= 0; in--) {
-                toCome[in] = Integer.MAX_VALUE;
+                toCome[in] = TOO_MUCH;
                 for (int i = 0; i < others; i++) {
                     if ((in >> i & 1) == 0) {
                         toCome[in] = Math.min(toCome[in], costOf(in, i) + toCome[in | 1 << i]);
