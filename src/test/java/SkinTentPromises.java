@@ -29,6 +29,8 @@ public final class SkinTentPromises {
         layer();
         count();
         best();
+        bestAgain();
+        bestByTrying();
         live();
         liveLooks();
         gusts();
@@ -223,6 +225,15 @@ public final class SkinTentPromises {
         badTent("5;", 1, 0);
         badTent("clot", 1, 0);
         badTent(" cloths 2;", 1, 1);
+        badTent("clotha 2;", 1, 0);
+        badTent("clothz 2;", 1, 0);
+        badTent("cloth`2;", 1, 5);
+        badTent("cloth{2;", 1, 5);
+        badTent("cloth/2;", 1, 5);
+        badTent("cloth:2;", 1, 5);
+        badTent("cloth 2/;", 1, 7);
+        badTent("cloth 2:;", 1, 7);
+        badTent("zcloth 2;", 1, 0);
         badTent("Cloth 2;", 1, 0);
         badTent("cloth", 1, 5);
         badTent("cloth  ", 1, 7);
@@ -699,11 +710,87 @@ public final class SkinTentPromises {
         due("MINUTES", x.count(0), 9);
         tent("wood 400 60;", 1);
         bestIs(1, 9, 0, 1, 0, 0, 8);
-        // Only with both EARS behind the wind the smoke stays up.
-        tent("mix 100;limit 60;wood 300 60;", 3);
-        x.wind(0, 9);
-        int behind = x.best(30, 20, 0, 3);
-        due("EAR 0", x.best(30, 20, behind, 1) < x.best(30, 20, behind, 2) + 1 ? 1 : 0, 1);
+    }
+
+    /** The same is asked again when something else is so. */
+    private static void bestAgain() {
+        begin("18");
+        bestIs(1, 15, 8, 2, 0, 0, 8);
+        x.wet(true);
+        bestIs(1, 15, 8, NONE, NONE, NONE, NONE);
+        x.wet(false);
+        bestIs(1, 15, 8, 2, 0, 0, 8);
+        bestIs(1, 15, 7, 2, 0, 0, 8);
+        bestIs(1, 7, 7, 1, 0, 0, 8);
+        bestIs(1, 8, 7, 2, 0, 0, 8);
+        bestIs(2, 8, 7, 1, 0, 0, 8);
+        bestIs(2, 7, 7, 1, 0, 0, 8);
+        tent("wood 150 60;", 1);
+        bestIs(2, 7, 7, 1, 0, 0, 8);
+        tent("wood 150 60;limit 60;", 2);
+        bestIs(2, 7, 7, NONE, NONE, NONE, NONE);
+        bestIs(2, 7, 5, 1, 0, 0, 5);
+        badTent("wood 999 0;wood", 3, 11);
+        bestIs(2, 7, 5, 1, 0, 0, 5);
+        begin("18");
+        SkinTent same = x;
+        same.feed(8, 0x6C696D6974363020L);
+        same.feed(1, ';');
+        same.tent();
+        int differ = 0;
+        for (int i = 0; i < 16; i++) {
+            // First only the WAY becomes another, then only the strength.
+            int way = Math.min(i, 7);
+            int strength = i < 8 || i % 2 == 1 ? 9 : i - 8;
+            int before = same.best(12, 60, 3, 1);
+            same.wind(way, strength);
+            x = new SkinTent();
+            say("limit60;");
+            x.tent();
+            x.wind(way, strength);
+            for (int what = 0; what < 4; what++) {
+                due("best, the wind being another, " + what, same.best(12, 60, 3, what), x.best(12, 60, 3, what));
+            }
+            differ += same.best(12, 60, 3, 1) == before ? 0 : 1;
+        }
+        due("how often it is another EAR 0", differ > 8 ? 1 : 0, 1);
+    }
+
+    /** What is told as THE BEST SET is what one finds by trying each on a tent of its own. */
+    private static void bestByTrying() {
+        begin("18");
+        bestByTrying("", 0, 0, 12, 80, 0);
+        bestByTrying("", 0, 0, 12, 80, 5);
+        bestByTrying("limit 60;", 0, 9, 12, 60, 3);
+        bestByTrying("limit 60;", 5, 9, 12, 60, 3);
+        bestByTrying("limit 60;", 5, 4, 12, 60, 3);
+        bestByTrying("limit 20;cloth 4;door 100;", 3, 5, 20, 40, 0);
+        bestByTrying("limit 20;cloth 4;door 100;", 3, 5, 20, 40, 4);
+        // Only SHUT one is warm enough.
+        bestByTrying("hole 0;door 100;mix 0;skin 0;cloth 0;", 2, 9, 10, 600, 0);
+        due("EAR 0", x.best(10, 600, 0, 1), 8);
+        due("EAR 1", x.best(10, 600, 0, 2), 8);
+    }
+
+    private static void bestByTrying(String text, int way, int strength, int n, int w, int l) {
+        int[] found = {NONE, NONE, NONE, NONE};
+        for (int f = 0; f <= 9 && found[0] == NONE; f++) {
+            for (int sets = 0; sets < 81; sets++) {
+                x = new SkinTent();
+                say(text);
+                x.tent();
+                x.wind(way, strength);
+                x.fire(f);
+                x.ear(0, sets / 9);
+                x.ear(1, sets % 9);
+                int low = x.run(n);
+                if (x.layer(1, 2) >= w && low >= l && low > found[3]) {
+                    found = new int[] {f, sets / 9, sets % 9, low};
+                }
+            }
+        }
+        bestIs(n, w, l, found);
+        due("fire that is found", found[0] > 0 ? 1 : 0, 1);
     }
 
     private static void bestIs(int n, int w, int l, int... wants) {
