@@ -1478,11 +1478,10 @@ public final class SkinTent {
                 return NONE;
             }
             int best = all;
+            // Of like ones the least SET comes first; all of them are longer together than any other SET.
             for (int set = 0; set < all; set++) {
                 int length = lengthOf(set);
-                // Of like ones the least SET comes first.
-                boolean better = length < lengthOf(best) || length == lengthOf(best) && set < best;
-                if (better && length >= needed && suffices(set)) {
+                if (length < lengthOf(best) && length >= needed && suffices(set)) {
                     best = set;
                 }
             }
