@@ -594,7 +594,9 @@ public final class SkinTent {
         // A POLE's strength, a PEG's hold.
         private final int[] mights = new int[MOST];
         private int many = 0;
-        private final int[] bears = new int[MOST];
+        // PRESS or PULL, and what came on from those that went: a rope takes its share of the first alone.
+        private final int[] pulls = new int[MOST];
+        private final int[] came = new int[MOST];
         private final boolean[] holds = new boolean[MOST];
         private int holding = 0;
 
@@ -643,15 +645,20 @@ public final class SkinTent {
         void loadUp(int way, int square, int[] shares) {
             for (int i = 0; i < many; i++) {
                 int share = apart(places[i] / 3, way);
-                bears[i] = share < shares.length ? square * shares[share] : 0;
+                pulls[i] = share < shares.length ? square * shares[share] : 0;
+                came[i] = 0;
                 holds[i] = true;
             }
             holding = many;
         }
 
+        private int bears(int i, int less) {
+            return Math.max(0, pulls[i] - less) + came[i];
+        }
+
         /** By how much one bears more than it can, if so much less pulls at it. */
         int excess(int i, int less) {
-            return Math.max(0, bears[i] - less) - mights[i];
+            return bears(i, less) - mights[i];
         }
 
         /** The first of those with the greatest excess; NONE, if none has one above 0. */
@@ -667,16 +674,17 @@ public final class SkinTent {
             return worst;
         }
 
-        /** What goes on is all that it bore: by how much the rope lessens a PULL is told anew in each round. */
-        void lose(int i) {
+        /** What goes on is what it bore in this round: the rope keeps its share of that. */
+        void lose(int i, int less) {
             holds[i] = false;
             holding--;
-            int half = bears[i] / 2;
+            int bore = bears(i, less);
+            int half = bore / 2;
             int rising = nextHolding(i, 1);
             int falling = nextHolding(i, -1);
             if (rising != NONE && falling != NONE) {
-                bears[rising] += half;
-                bears[falling] += bears[i] - half;
+                came[rising] += half;
+                came[falling] += bore - half;
             }
         }
 
@@ -791,7 +799,8 @@ public final class SkinTent {
     private static final class Air {
         private static final int WARMTH = 20, FIRE_BELOW = 1, FIRE_ABOVE = 5;
         private static final int LEAST_DRAW = -400, MOST_DRAW = 700, OPEN_EAR = 50;
-        private static final int[] LIFTS = {-12, -6, 3, 8, 10};
+        // By eighths round from THE WIND's WAY to a SET: 0 to 4 APART and back again.
+        private static final int[] LIFTS = {-12, -6, 3, 8, 10, 8, 3, -6};
 
         private final long[] smoke = new long[LAYERS];
         private final long[] heat = new long[LAYERS];
@@ -867,8 +876,8 @@ public final class SkinTent {
         }
 
         int liftOf(int earSet) {
-            int far = apart(earSet, way);
-            return earSet == SHUT || far >= LIFTS.length ? 0 : strength * LIFTS[far];
+            int eighths = Math.floorMod(earSet - way, WAYS);
+            return earSet == SHUT || eighths >= LIFTS.length ? 0 : strength * LIFTS[eighths];
         }
 
         int draw(Tent tent) {
@@ -1205,9 +1214,9 @@ public final class SkinTent {
             which[many] = breaks ? pole : peg;
             excesses[many] = breaks ? poles.excess(pole, 0) : pegs.excess(peg, less);
             if (breaks) {
-                poles.lose(pole);
+                poles.lose(pole, 0);
             } else {
-                pegs.lose(peg);
+                pegs.lose(peg, less);
             }
             return true;
         }

@@ -274,7 +274,8 @@ public final class SkinTentAgainstModel {
             if (kind < 4) {
                 int after = upTo(3) == 0 ? 0 : upTo(1 << Math.min(8, m.acts.size() + upTo(8) / 7));
                 after &= upTo(2) == 0 ? upTo(256) : -1;
-                int minutes = near(1, number % 3 == 1 ? 30 : 9);
+                // Long ACTS are dear to the model: few runs have them.
+                int minutes = near(1, number % 24 == 4 ? 30 : 9);
                 int hands = near(1, 2);
                 after = upTo(40) == 0 ? near(0, 255) : after;
                 due("act(" + minutes + ", " + hands + ", " + after + ")", x.act(minutes, hands, after), m.act(minutes, hands, after));
@@ -907,6 +908,19 @@ public final class SkinTentAgainstModel {
             if (n < 1 || n > 60 || w < 0 || w > 9999 || l < 0 || l > 8 || what < 0 || what > 3) {
                 return OUTSIDE;
             }
+            String asked = n + " " + w + " " + l + " " + now.way + " " + now.strength + " " + now.wet + Arrays.toString(told);
+            if (!asked.equals(bestAsked)) {
+                bestAsked = asked;
+                bestRow = triedBest(n, w, l);
+            }
+            return bestRow == null ? NONE : bestRow[what];
+        }
+
+        // One asks for all four parts of an answer: each is sought once.
+        String bestAsked;
+        int[] bestRow;
+
+        int[] triedBest(int n, int w, int l) {
             int[] best = null;
             for (int f = 0; f <= 9 && best == null; f++) {
                 for (int a = 0; a <= 8; a++) {
@@ -924,7 +938,7 @@ public final class SkinTentAgainstModel {
                     }
                 }
             }
-            return best == null ? NONE : best[what];
+            return best;
         }
 
         // ---- nights
@@ -990,35 +1004,40 @@ public final class SkinTentAgainstModel {
         List<int[]> blow(int a, int w) {
             List<List<int[]>> kinds = List.of(poles, pegs);
             int[][] shares = {{5, 3, 0, 1, 2}, {4, 2, 1, 3, 6}};
-            List<Map<Integer, Integer>> bear = List.of(new HashMap<>(), new HashMap<>());
+            // Of those that hold: their own PRESS or PULL, and what came on to them.
+            List<Map<Integer, Integer>> own = List.of(new HashMap<>(), new HashMap<>());
+            int[][] came = new int[2][16];
             for (int kind = 0; kind < 2; kind++) {
                 for (int i = 0; i < kinds.get(kind).size(); i++) {
-                    bear.get(kind).put(i, w * w * shares[kind][apart(kinds.get(kind).get(i)[0] / 3, a)]);
+                    own.get(kind).put(i, w * w * shares[kind][apart(kinds.get(kind).get(i)[0] / 3, a)]);
                 }
             }
             List<int[]> result = new ArrayList<>();
             while (true) {
                 int[] worst = null;
+                int bore = 0;
                 for (int kind = 0; kind < 2; kind++) {
-                    Map<Integer, Integer> of = bear.get(kind);
+                    Map<Integer, Integer> of = own.get(kind);
                     for (int i = 0; i < 16; i++) {
                         if (of.containsKey(i)) {
-                            int load = kind == 0 ? of.get(i) : Math.max(0, of.get(i) - told[8] / of.size());
+                            int load = came[kind][i];
+                            load += kind == 0 ? of.get(i) : Math.max(0, of.get(i) - told[8] / of.size());
                             int excess = load - kinds.get(kind).get(i)[1];
                             if (excess > 0 && (worst == null || excess > worst[2])) {
                                 worst = new int[] {kind, i, excess};
+                                bore = load;
                             }
                         }
                     }
                 }
                 if (worst == null) {
-                    result.add(new int[] {bear.get(0).size()});
+                    result.add(new int[] {own.get(0).size()});
                     return result;
                 }
                 result.add(worst);
                 List<int[]> all = kinds.get(worst[0]);
-                Map<Integer, Integer> of = bear.get(worst[0]);
-                int bore = of.remove(worst[1]);
+                Map<Integer, Integer> of = own.get(worst[0]);
+                of.remove(worst[1]);
                 if (!of.isEmpty()) {
                     for (int step = -1; step <= 1; step += 2) {
                         int place = all.get(worst[1])[0];
@@ -1029,7 +1048,7 @@ public final class SkinTentAgainstModel {
                                 found = all.get(i)[0] == place ? i : found;
                             }
                         }
-                        of.put(found, of.get(found) + (step > 0 ? bore / 2 : bore - bore / 2));
+                        came[worst[0]][found] += step > 0 ? bore / 2 : bore - bore / 2;
                     }
                 }
             }

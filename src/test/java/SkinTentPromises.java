@@ -997,11 +997,59 @@ public final class SkinTentPromises {
         tent("peg 0 11;rope 9;peg 6 10;", 3);
         due("storm(0, 2)", x.storm(0, 2), 2);
         stormIs(0, 1, 0, 1);
-        // 4 and 16, less 9.
-        stormIs(1, 1, 1, 1);
+        // 4 less 9 is 0; what the first bore, 12, comes on.
+        stormIs(1, 1, 1, 2);
+        tent("peg 0 11;rope 9;peg 6 12;", 3);
+        due("storm(0, 2)", x.storm(0, 2), 1);
+        ropeOnwards();
         tent("peg 0 1;rope 999;pole 0 19;", 3);
         due("storm(0, 2)", x.storm(0, 2), 1);
         stormIs(0, 0, 0, 1);
+    }
+
+    /** What a PEG bore, less the rope's share, goes on; of what came the rope has no share. */
+    private static void ropeOnwards() {
+        // 36 less 5 is 31; the other bears 54 less 10, and 31.
+        tent("rope 10;peg 0 1;peg 12 75;", 3);
+        due("storm(0, 3)", x.storm(0, 3), 1);
+        stormIs(0, 1, 0, 30);
+        stormIs(1, NONE, NONE, NONE);
+        tent("rope 10;peg 0 1;peg 12 74;", 3);
+        due("storm(0, 3)", x.storm(0, 3), 2);
+        stormIs(1, 1, 1, 1);
+        // 54 less 10 is 44; 22 goes on to each; 9 less 15 is 0 then.
+        tent("rope 30;peg 12 1;peg 18 22;peg 6 22;", 4);
+        due("storm(0, 3)", x.storm(0, 3), 1);
+        stormIs(0, 1, 0, 43);
+        tent("rope 30;peg 12 1;peg 18 21;peg 6 999;", 4);
+        due("storm(0, 3)", x.storm(0, 3), 2);
+        stormIs(1, 1, 1, 1);
+        // What came on goes on, too: 22 and 22 and, of the last alone, 9 less 30.
+        tent("rope 30;peg 12 1;peg 18 21;peg 6 43;", 4);
+        due("storm(0, 3)", x.storm(0, 3), 3);
+        stormIs(2, 1, 2, 1);
+        tent("rope 30;peg 12 1;peg 18 21;peg 6 44;", 4);
+        due("storm(0, 3)", x.storm(0, 3), 2);
+        // An odd one: 54 less 5 is 49, 24 to the next rising, 25 to the next falling, with 27 less 7 and 18 less 7.
+        tent("rope 15;peg 12 1;peg 15 44;peg 3 35;", 4);
+        due("storm(0, 3)", x.storm(0, 3), 3);
+        stormIs(1, 1, 2, 1);
+        // 36 goes on whole to the one left: 27 less 15, and 24 and 36.
+        stormIs(2, 1, 1, 72 - 44);
+        tent("rope 15;peg 12 1;peg 15 43;peg 3 36;", 4);
+        due("storm(0, 3)", x.storm(0, 3), 3);
+        stormIs(1, 1, 1, 1);
+        stormIs(2, 1, 2, 3 + 25 + 44 - 36);
+        tent("rope 15;peg 12 1;peg 15 44;peg 3 36;", 4);
+        due("storm(0, 3)", x.storm(0, 3), 1);
+        // A storm begins anew: nothing is left of what came on.
+        due("storm(0, 3) again", x.storm(0, 3), 1);
+        due("storm(0, 0)", x.storm(0, 0), 0);
+        // POLES have no rope: 45 goes on, 22 of it to the next, that bears 18.
+        tent("rope 99;peg 0 999;pole 0 44;pole 12 39;pole 13 999;", 5);
+        due("storm(0, 3)", x.storm(0, 3), 2);
+        stormIs(0, 0, 0, 1);
+        stormIs(1, 0, 1, 1);
     }
 
     private static void stormIs(int i, int... wants) {
