@@ -876,8 +876,8 @@ public final class SkinTent {
         }
 
         int liftOf(int earSet) {
-            int eighths = Math.floorMod(earSet - way, WAYS);
-            return earSet == SHUT || eighths >= LIFTS.length ? 0 : strength * LIFTS[eighths];
+            int eighths = (earSet - way + WAYS) % WAYS;
+            return earSet == SHUT || eighths < 0 || eighths >= LIFTS.length ? 0 : strength * LIFTS[eighths];
         }
 
         int draw(Tent tent) {
