@@ -3,7 +3,8 @@ import java.util.List;
 
 /**
  * "What is refused changes nothing": of two tents made alike one has the refused call; then all that can be told of both
- * is told, and must be the same. So, too, for a text with a FAULT ("all else is as it was"), and for calls that only tell.
+ * is told, and must be the same. So, too, for a text with a FAULT ("all else is as it was"), for calls that only tell, and,
+ * but for what they are there for, for all others.
  */
 public final class SkinTentRefused {
     private static final int NONE = -1, UNKNOWN = -1000000001, OUTSIDE = -1000000002, NOT = -1000000003, FULL = -1000000004;
@@ -31,6 +32,7 @@ public final class SkinTentRefused {
         imageCalls();
         faults();
         tellingCalls();
+        otherCalls();
         System.out.println(wrong == 0 ? tried + " calls change nothing" : wrong + " answers are not as due");
         if (wrong != 0) {
             System.exit(1);
@@ -39,35 +41,75 @@ public final class SkinTentRefused {
 
     // ---- the states
 
-    private static void say(SkinTent x, String text) {
-        for (int i = 0; i < text.length(); i++) {
-            x.feed(1, text.charAt(i));
-        }
-    }
-
     private static final String TENT = "cloth1;limit9;rope7;pole0 40;pole9 50;pole20 9;pole3 9;pole5 99;peg2 9;peg13 30;";
 
-    /** Something of all there is; a FAULT was the latest. */
+    /** Something of all there is; a FAULT was the latest, so it comes ahead of all that it must not change. */
     private static SkinTent busyWithoutText() {
-        SkinTent x = new SkinTent();
-        say(x, TENT);
-        x.tent();
+        SkinTent x = textsOnly();
+        air(x);
+        x.live(0, 3);
         x.ear(0, 3);
+        x.ear(1, 7);
         x.wind(6, 5);
         x.wet(true);
+        x.fire(5);
+        x.seed(77);
+        standingOnly(x);
+        actsAndMonths(x);
+        return x;
+    }
+
+    /** The same, the other way round: what one call makes another, that comes later, could undo in both tents. */
+    private static SkinTent busyBackwards() {
+        SkinTent x = textsOnly();
+        actsAndMonths(x);
+        standingOnly(x);
+        x.seed(77);
+        x.fire(5);
+        x.wet(true);
+        x.wind(6, 5);
+        x.ear(1, 7);
+        x.ear(0, 3);
+        air(x);
+        x.live(0, 3);
+        return x;
+    }
+
+    private static SkinTent textsOnly() {
+        SkinTent x = new SkinTent();
+        feedAll(x, TENT);
+        x.tent();
+        feedAll(x, "wind1 2 3;wind4 5 6wet;");
+        x.night();
+        feedAll(x, "look2smoke6cold99 2");
+        x.rule();
+        feedAll(x, "look3warm9 1");
+        x.rule();
+        feedAll(x, "mix9;mix");
+        x.tent();
+        return x;
+    }
+
+    private static void air(SkinTent x) {
+        x.ear(0, 2);
+        x.ear(1, 6);
+        x.wind(5, 4);
         x.fire(4);
-        x.seed(12345);
         x.run(5);
         x.keep(0);
-        say(x, "wind1 2 3;wind4 5 6wet;");
-        x.night();
-        say(x, "look2smoke6cold99 2");
-        x.rule();
-        say(x, "look3warm9 1");
-        x.rule();
-        x.live(0, 3);
+        x.seed(12345);
+        x.wet(true);
+        x.run(4);
+        x.keep(1);
+        x.run(2);
+    }
+
+    private static void standingOnly(SkinTent x) {
         x.storm(0, 3);
         x.tripod(0, 4, 2);
+    }
+
+    private static void actsAndMonths(SkinTent x) {
         x.act(3, 1, 0);
         x.act(4, 2, 1);
         x.act(5, 1, 1);
@@ -79,14 +121,22 @@ public final class SkinTentRefused {
         x.month(20, false);
         x.month(30, true);
         x.month(9, true);
-        say(x, "mix9;mix");
-        x.tent();
-        return x;
     }
 
     private static SkinTent busy() {
         SkinTent x = busyWithoutText();
-        say(x, "door 7");
+        feedAll(x, "door 7");
+        return x;
+    }
+
+    /** One IMAGE is kept, the other not. */
+    private static SkinTent withOneImage() {
+        SkinTent x = new SkinTent();
+        x.fire(4);
+        x.run(5);
+        x.keep(0);
+        x.fire(3);
+        x.run(1);
         return x;
     }
 
@@ -95,7 +145,8 @@ public final class SkinTentRefused {
         SkinTent x = new SkinTent();
         StringBuilder text = new StringBuilder();
         for (int i = 0; i < 16; i++) {
-            text.append("pole").append(i).append(" 9;peg").append(i).append(" 9;");
+            String might = i % 2 == 0 ? " 9;" : " 99;";
+            text.append("pole").append(i).append(might).append("peg").append(i).append(might);
         }
         feedAll(x, text.toString());
         x.tent();
@@ -179,7 +230,9 @@ public final class SkinTentRefused {
         if (withText) {
             pending(x, all);
         }
-        all.add("clear() " + x.clear() + ", stay() " + x.stay() + ", scrap() " + x.scrap());
+        all.add("clear() " + x.clear());
+        all.add("stay() " + x.stay());
+        all.add("scrap() " + x.scrap());
         return all;
     }
 
@@ -200,7 +253,8 @@ public final class SkinTentRefused {
 
     private static void standing(SkinTent x, List<String> all) {
         for (int k = 0; k < x.told(9); k++) {
-            all.add("pole(" + k + ") " + x.pole(k, 0) + " " + x.pole(k, 1) + ", fork " + x.fork(k));
+            all.add("pole(" + k + ") " + x.pole(k, 0) + " " + x.pole(k, 1));
+            all.add("fork(" + k + ") " + x.fork(k));
         }
         for (int k = 0; k < x.told(10); k++) {
             all.add("peg(" + k + ") " + x.peg(k, 0) + " " + x.peg(k, 1));
@@ -450,7 +504,7 @@ public final class SkinTentRefused {
             refused("keep(" + i + ")", UNKNOWN, x -> x.keep(i));
             refused("goBack(" + i + ")", UNKNOWN, x -> x.goBack(i));
         }
-        refused("goBack(1)", SkinTentRefused::busy, NOT, x -> x.goBack(1));
+        refused("goBack(1)", SkinTentRefused::withOneImage, NOT, x -> x.goBack(1));
         refused("goBack(0)", SkinTentRefused::standing, NOT, x -> x.goBack(0));
     }
 
@@ -516,5 +570,74 @@ public final class SkinTentRefused {
             telling("cut(-1)", state, x -> x.cut(-1));
             telling("plan(50)", state, x -> x.plan(50));
         }
+    }
+
+    // ---- calls that change what they are there for, and nothing else
+
+    /** What of all that is told begins with one of these words may be another. */
+    private static void changesOnly(String words, String what, Call call) {
+        changesOnly(words, what, SkinTentRefused::busyWithoutText, call);
+        changesOnly(words, what + ", backwards", SkinTentRefused::busyBackwards, call);
+    }
+
+    private static void changesOnly(String words, String what, State state, Call call) {
+        SkinTent x = state.make();
+        SkinTent y = state.make();
+        tried++;
+        due(what, call.on(x) >= 0 ? 1 : 0, 1);
+        same(what, without(words, told(x, false)), without(words, told(y, false)));
+    }
+
+    private static List<String> without(String words, List<String> all) {
+        List<String> rest = new ArrayList<>();
+        for (String one : all) {
+            boolean isLeft = true;
+            for (String word : words.split(" ")) {
+                isLeft &= !one.startsWith(word);
+            }
+            if (isLeft) {
+                rest.add(one);
+            }
+        }
+        return rest;
+    }
+
+    private static final String AIR = "count( layer( live(";
+
+    private static long with(SkinTent x, String text, Call call) {
+        feedAll(x, text);
+        return call.on(x);
+    }
+
+    private static void otherCalls() {
+        changesOnly("count(16)", "feed", x -> x.feed(3, 0x777777));
+        String ofTent = "told(0 told(1) told(2 told(3 told(4 told(5 told(6 told(7 told(8 told(9 told(10 pole( peg( gone( gone weakest( fork( "
+            + "order( best live( layer( count(0 count(1) count(2) count(3 count(4 count(5 count(6 count(7 count(8 count(9";
+        changesOnly(ofTent, "tent()", x -> with(x, "mix 3;pole 5 5;", SkinTent::tent));
+        changesOnly("told(11) live(", "night()", x -> with(x, "wind 3 3 3;", SkinTent::night));
+        changesOnly("told(12) live(2", "rule()", x -> with(x, "look 7", SkinTent::rule));
+        changesOnly("count(1) count(2 count(3 count(14 live(", "ear()", x -> x.ear(0, 6));
+        changesOnly("count(1) count(2 count(3 count(15 live(", "ear()", x -> x.ear(1, 8));
+        changesOnly("count(1) count(2 count(11 count(12 best", "wind()", x -> x.wind(3, 9));
+        changesOnly("count(13 best", "wet()", x -> x.wet(false));
+        changesOnly("count(10 live(", "fire()", x -> x.fire(9));
+        String ofRun = "count(0 count(1) count(4 count(5 count(6 count(7 count(8 count(9 layer( live(";
+        changesOnly(ofRun, "run()", x -> x.run(40));
+        changesOnly(ofRun, "fresh()", SkinTent::fresh);
+        changesOnly(AIR + " lived( seed best", "live()", x -> x.live(0, 5));
+        changesOnly("gone( gone", "storm()", x -> x.storm(4, 9));
+        changesOnly("least clear", "act()", x -> x.act(9, 2, 7));
+        changesOnly("least clear", "clear()", SkinTent::clear);
+        changesOnly("fork( order(", "tripod()", x -> x.tripod(1, 2, 3));
+        changesOnly("cut( scrap", "hide()", x -> x.hide(7));
+        changesOnly("cut( scrap", "piece()", x -> x.piece(7));
+        changesOnly("cut( scrap", "scrap()", SkinTent::scrap);
+        changesOnly("plan( stay", "month()", x -> x.month(30, true));
+        changesOnly("plan( stay", "stay()", SkinTent::stay);
+        changesOnly("seed live(", "seed()", x -> x.seed(5));
+        changesOnly("goBack(0", "keep(0)", x -> x.keep(0));
+        changesOnly("goBack(1", "keep(1)", x -> x.keep(1));
+        changesOnly(AIR + " seed best", "goBack(0)", x -> x.goBack(0));
+        changesOnly(AIR + " seed best", "goBack(1)", x -> x.goBack(1));
     }
 }
