@@ -13,14 +13,15 @@ import java.util.TreeSet;
 import java.util.regex.Matcher;
 import java.util.regex.Pattern;
 
-/** What of ../shared/LANGUAGE.md can be told from the source and from the compiled class. */
+/** What of ../shared/LANGUAGE.md can be told from the source, and from the face of the classes. */
 public final class SkinTentLanguage {
     private static final String FACE = "act best clear count cut ear fault feed fire fork fresh goBack gone hide keep layer "
         + "least live lived month night order peg piece plan pole rule run scrap seed stay storm tent told tripod weakest wet wind";
     private static int wrong = 0;
 
     public static void main(String[] args) throws IOException {
-        String source = Files.readString(Path.of(args[0]), StandardCharsets.UTF_8);
+        Path program = Path.of(args.length > 0 ? args[0] : "src/main/java/SkinTent.java");
+        String source = Files.readString(program, StandardCharsets.UTF_8);
         face();
         classes();
         words(withoutComments(source));
