@@ -1,5 +1,6 @@
 import java.io.IOException;
 import java.lang.reflect.Method;
+import java.lang.reflect.Modifier;
 import java.nio.charset.StandardCharsets;
 import java.nio.file.Files;
 import java.nio.file.Path;
@@ -7,12 +8,14 @@ import java.util.Set;
 import java.util.TreeSet;
 import java.util.regex.Matcher;
 import java.util.regex.Pattern;
+import java.util.stream.Stream;
 
 /** What README.md says of the class and of its tests is so: every call of its examples answers what stands behind it. */
 public final class SkinTentReadme {
     private static final Pattern MAKE = Pattern.compile("SkinTent tent = new SkinTent\\(\\);");
     private static final Pattern FEED = Pattern.compile("feed\\(tent, \"(.*)\"\\);");
     private static final Pattern CALL = Pattern.compile("tent\\.(\\w+)\\((.*)\\);\\s+// (-?\\d+)");
+    private static final String[] ARGUMENTS = {"", "\\w+", "\\w+, \\w+", "\\w+, \\w+, \\w+", "\\w+, \\w+, \\w+, \\w+"};
     private static int wrong = 0;
     private static int calls = 0;
     private static SkinTent tent = new SkinTent();
@@ -99,12 +102,12 @@ public final class SkinTentReadme {
         return Integer.valueOf(word.equals("SkinTent.NONE") ? SkinTent.NONE : Integer.decode(word));
     }
 
-    /** Each method of the class is named. */
+    /** Each method of the class is in the table of calls, with as many arguments as it has. */
     private static void names(String text) {
         for (Method method : SkinTent.class.getDeclaredMethods()) {
-            boolean isOfFace = java.lang.reflect.Modifier.isPublic(method.getModifiers());
-            need(!isOfFace || Pattern.compile("\\b" + method.getName() + "\\b").matcher(text).find(),
-                "not named: " + method.getName());
+            String told = "`" + method.getName() + "\\(" + ARGUMENTS[method.getParameterCount()] + "\\)`";
+            boolean isOfFace = Modifier.isPublic(method.getModifiers());
+            need(!isOfFace || Pattern.compile("(?m)^\\| .*" + told + ".* \\| .* \\|$").matcher(text).find(), "not told: " + method);
         }
     }
 
@@ -116,7 +119,7 @@ public final class SkinTentReadme {
             told.add(matcher.group());
         }
         Set<String> there = new TreeSet<>();
-        try (java.util.stream.Stream<Path> files = Files.list(project.resolve("src/test/java"))) {
+        try (Stream<Path> files = Files.list(project.resolve("src/test/java"))) {
             files.forEach(file -> there.add("src/test/java/" + file.getFileName()));
         }
         need(told.equals(there), "tests told: " + told + ", tests there: " + there);
